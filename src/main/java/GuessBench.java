@@ -203,7 +203,7 @@ public final class GuessBench {
             return NONE;
         }
         if (!levelKnown) {
-            leastLevel.find(poolNow(), picks, table.columns);
+            leastLevel.find(poolNow(), table.columns);
             levelKnown = true;
         }
         return Fractions.tell(leastLevel.top, leastLevel.bottom, what);
@@ -518,12 +518,11 @@ public final class GuessBench {
     }
 
     /**
-     * The ROWS that are THERE, close together. Behind the last place stand two rows that tie the
+     * The ROWS that are THERE, close together. Behind the last one stand two rows that tie the
      * third and the second column to 0: with them a choice of rows is always one of three columns.
      */
     private static final class Pool {
-        static final int TIES = MOST_ROWS;
-        static final int PLACES = MOST_ROWS + 2;
+        static final int PLACES = MOST_ROWS + MOST_COLUMNS - 1;
 
         final int[] a = new int[PLACES];
         final int[] b = new int[PLACES];
@@ -532,30 +531,33 @@ public final class GuessBench {
         final int[] rowOf = new int[PLACES];
         int size;
 
-        Pool() {
-            c[TIES] = 1;
-            b[TIES + 1] = 1;
-        }
-
         void fill(Table from) {
             size = 0;
             for (int r = 0; r < from.rows; r++) {
                 if (from.kept[r]) {
-                    a[size] = from.number(r, 0);
-                    b[size] = from.number(r, 1);
-                    c[size] = from.number(r, 2);
+                    put(size, from.number(r, 0), from.number(r, 1), from.number(r, 2));
                     told[size] = from.tolds[r];
                     rowOf[size] = r;
                     size++;
                 }
             }
+            put(size, 0, 0, 1);
+            put(size + 1, 0, 1, 0);
+            told[size] = 0;
+            told[size + 1] = 0;
+        }
+
+        private void put(int place, int first, int second, int third) {
+            a[place] = first;
+            b[place] = second;
+            c[place] = third;
         }
     }
 
     /** Choices of so many places of so many, places rising, in the order of their first difference. */
     private static final class Picks {
-        /** Above the 10626 choices of 4 of 24, which are the most that are gone through. */
-        static final int MOST = 20000;
+        /** Above the 2024 choices of 3 of 24, which are the most that are gone through. */
+        static final int MOST = 10000;
 
         private final int[] places = new int[MOST_HALVED];
         private int many;
@@ -590,7 +592,7 @@ public final class GuessBench {
 
         /** The place that was chosen as number i; behind the last one the pool's ties. */
         int placeOf(int i) {
-            return i < many ? places[i] : Pool.TIES + i - many;
+            return i < many ? places[i] : of + i - many;
         }
     }
 
@@ -714,7 +716,7 @@ public final class GuessBench {
             for (int turn = 0; more && turn < Picks.MOST; turn++) {
                 solveExactly(pool, picks.placeOf(0), picks.placeOf(1), picks.placeOf(2));
                 if (divisor != 0) {
-                    compare(sumOf(pool));
+                    takeIfLess(pool);
                 }
                 more = picks.advance();
             }
@@ -740,19 +742,12 @@ public final class GuessBench {
                     + third * (p.a[i] * p.b[j] - p.b[i] * p.a[j]);
         }
 
-        private long sumOf(Pool p) {
-            long all = 0;
-            for (int r = 0; r < p.size; r++) {
-                all += Math.abs(p.told[r] * divisor - p.a[r] * a - p.b[r] * b - p.c[r] * c);
-            }
-            return all;
-        }
-
         /** Sums stay below 10^8 and divisors below 10^4, so their products fit. */
-        private void compare(long newTop) {
-            long newBottom = Math.abs(divisor);
-            if (bottom == 0 || newTop * bottom < top * newBottom) {
-                long sign = divisor < 0 ? -1 : 1;
+        private void takeIfLess(Pool p) {
+            long sign = divisor < 0 ? -1 : 1;
+            long newBottom = sign * divisor;
+            long newTop = sumBelow(p, top * newBottom);
+            if (newTop != NONE) {
                 top = newTop;
                 bottom = newBottom;
                 tops[0] = sign * a;
@@ -760,49 +755,107 @@ public final class GuessBench {
                 tops[2] = sign * c;
             }
         }
+
+        /** The sum of the sizes; NONE as soon as it, times the best bottom, is not below a bound. */
+        private long sumBelow(Pool p, long bound) {
+            int[] firsts = p.a;
+            int[] seconds = p.b;
+            int[] thirds = p.c;
+            int[] tolds = p.told;
+            long first = a;
+            long second = b;
+            long third = c;
+            long times = divisor;
+            long best = bottom;
+            long all = 0;
+            for (int r = 0; r < p.size; r++) {
+                all += Math.abs(tolds[r] * times - firsts[r] * first - seconds[r] * second
+                        - thirds[r] * third);
+                if (best != 0 && all * best >= bound) {
+                    return NONE;
+                }
+            }
+            return all;
+        }
     }
 
     /**
      * The least greatest miss. No weights can help where rows, added up with factors, cancel out:
      * then the tolds, added up so, over the sum of the factors' sizes is a floor. The highest
-     * floor is reached, and one row more than there are columns is enough for it.
+     * floor is reached, and one row more than there are columns is enough for it. The factors of
+     * four rows are the volumes (determinants) of the other three.
      */
     private static final class LeastLevel {
+        /** Each three of the pool's places. */
+        private final int[] volumes = new int[threesBelow(Pool.PLACES)];
         long top;
         long bottom;
 
-        void find(Pool pool, Picks picks, int columns) {
+        void find(Pool pool, int columns) {
+            int ties = MOST_COLUMNS - columns;
+            int places = pool.size + ties;
+            measure(pool, places);
             top = 0;
             bottom = 1;
-            boolean more = picks.begin(columns + 1, pool.size);
-            for (int turn = 0; more && turn < Picks.MOST; turn++) {
-                raise(pool, picks);
-                more = picks.advance();
+            // Fours without all of the ties have volumes of 0 alone.
+            int leastL = ties > 0 ? places - 1 : 3;
+            for (int l = leastL; l < places; l++) {
+                int leastK = ties > 1 ? l - 1 : 2;
+                for (int k = leastK; k < l; k++) {
+                    for (int j = 1; j < k; j++) {
+                        raise(pool.told, j, k, l);
+                    }
+                }
             }
         }
 
-        private void raise(Pool p, Picks picks) {
-            int i = picks.placeOf(0);
-            int j = picks.placeOf(1);
-            int k = picks.placeOf(2);
-            int l = picks.placeOf(3);
-            long ijA = p.b[i] * p.c[j] - p.c[i] * p.b[j];
-            long ijB = p.c[i] * p.a[j] - p.a[i] * p.c[j];
-            long ijC = p.a[i] * p.b[j] - p.b[i] * p.a[j];
-            long klA = p.b[k] * p.c[l] - p.c[k] * p.b[l];
-            long klB = p.c[k] * p.a[l] - p.a[k] * p.c[l];
-            long klC = p.a[k] * p.b[l] - p.b[k] * p.a[l];
-            long factorI = p.a[j] * klA + p.b[j] * klB + p.c[j] * klC;
-            long factorJ = -(p.a[i] * klA + p.b[i] * klB + p.c[i] * klC);
-            long factorK = p.a[l] * ijA + p.b[l] * ijB + p.c[l] * ijC;
-            long factorL = -(p.a[k] * ijA + p.b[k] * ijB + p.c[k] * ijC);
-            long newTop = Math.abs(p.told[i] * factorI + p.told[j] * factorJ
-                    + p.told[k] * factorK + p.told[l] * factorL);
-            long newBottom = Math.abs(factorI) + Math.abs(factorJ)
-                    + Math.abs(factorK) + Math.abs(factorL);
-            if (newBottom != 0 && newTop * bottom > top * newBottom) {
-                top = newTop;
-                bottom = newBottom;
+        private static int twosBelow(int place) {
+            return place * (place - 1) / 2;
+        }
+
+        private static int threesBelow(int place) {
+            return place * (place - 1) * (place - 2) / 6;
+        }
+
+        /** The volumes of i < j < k stand in the order of k, then j, then i. */
+        private void measure(Pool p, int places) {
+            int to = 0;
+            for (int k = 2; k < places; k++) {
+                for (int j = 1; j < k; j++) {
+                    int crossA = p.b[j] * p.c[k] - p.c[j] * p.b[k];
+                    int crossB = p.c[j] * p.a[k] - p.a[j] * p.c[k];
+                    int crossC = p.a[j] * p.b[k] - p.b[j] * p.a[k];
+                    for (int i = 0; i < j; i++) {
+                        volumes[to] = p.a[i] * crossA + p.b[i] * crossB + p.c[i] * crossC;
+                        to++;
+                    }
+                }
+            }
+        }
+
+        /** Goes through all fours with these as their last three. */
+        private void raise(int[] told, int j, int k, int l) {
+            int[] volume = volumes;
+            int ijk = threesBelow(k) + twosBelow(j);
+            int ijl = threesBelow(l) + twosBelow(j);
+            int ikl = threesBelow(l) + twosBelow(k);
+            int factorI = volume[ikl + j];
+            int sizeI = Math.abs(factorI);
+            int toldJ = told[j];
+            int toldK = told[k];
+            int toldL = told[l];
+            for (int i = 0; i < j; i++) {
+                int factorJ = volume[ikl + i];
+                int factorK = volume[ijl + i];
+                int factorL = volume[ijk + i];
+                long newTop = Math.abs(told[i] * factorI - toldJ * factorJ + toldK * factorK
+                        - toldL * factorL);
+                long newBottom = sizeI + Math.abs(factorJ) + Math.abs(factorK) + Math.abs(factorL);
+                // Fours whose factors are all 0 have a top of 0 too, so that they never raise it.
+                if (newTop * bottom > top * newBottom) {
+                    top = newTop;
+                    bottom = newBottom;
+                }
             }
         }
     }
