@@ -786,8 +786,10 @@ public final class GuessBench {
      * four rows are the volumes (determinants) of the other three.
      */
     private static final class LeastLevel {
-        /** Each three of the pool's places. */
-        private final int[] volumes = new int[threesBelow(Pool.PLACES)];
+        /** So many threes of the pool's places there are. */
+        private static final int THREES = Pool.PLACES * (Pool.PLACES - 1) * (Pool.PLACES - 2) / 6;
+
+        private final int[] volumes = new int[THREES];
         long top;
         long bottom;
 

@@ -102,6 +102,13 @@ public final class PromiseTest {
         due("weight", x.weight(0, 0), x.weight(0, 1), 0, 1);
         due("weight 1", x.weight(1, 0), -1);
         due("sum", x.sum(0), x.sum(1), 0, 1);
+        due("half", new GuessBench().half(0, 0), new GuessBench().half(0, 1), 0, 1);
+        due("half's set", new GuessBench().half(0, 2), 0);
+        due("few", new GuessBench().few(1, 0), new GuessBench().few(1, 1), 0, 1);
+        due("few's set", new GuessBench().few(1, 2), 1);
+        due("sized", new GuessBench().sized(0, 0), -1);
+        due("cost", new GuessBench().cost(0, 0), -1);
+        due("corner", new GuessBench().corner(0, 0), -1);
         due("NONE", GuessBench.NONE, -1);
         due("row", x.row(5, 1, 0, 0), 0);
         due("weight after", x.weight(0, 0), 5);
