@@ -34,6 +34,7 @@ public final class BoundarySquaresTest {
         halfOfOthers();
         halfFirstOfSeveral();
         halfOfRowsThere();
+        halfAfterAChange();
         halfWithoutRows();
         CHECKS.end();
     }
@@ -523,8 +524,32 @@ public final class BoundarySquaresTest {
         CHECKS.due("two of 3, 20, 22, 23, the sum", x.half(2, 0), 409);
     }
 
+    /** The same question before and after a change: what was found before must not be told again. */
+    private static void halfAfterAChange() {
+        CHECKS.sentence("15", "of those THERE (now)");
+        GuessBench x = Benches.of(1, row(5, 0), row(7, 0));
+        CHECKS.due("the first", x.half(1, 2), 1);
+        CHECKS.fraction("the first", x.half(1, 0), x.half(1, 1), 25, 1);
+        x.row(3, 0, 0, 0);
+        CHECKS.due("a row more", x.half(1, 2), 4);
+        CHECKS.fraction("a row more", x.half(1, 0), x.half(1, 1), 9, 1);
+        x.set(2, false);
+        CHECKS.due("dropped", x.half(1, 2), 1);
+        x.set(0, false);
+        CHECKS.due("dropped too", x.half(1, 2), 2);
+        CHECKS.fraction("dropped too", x.half(1, 0), x.half(1, 1), 49, 1);
+        x.set(2, true);
+        CHECKS.due("taken back", x.half(1, 2), 4);
+        x.start(2);
+        CHECKS.due("started again", x.half(1, 2), -1);
+        x.row(2, 0, 0, 0);
+        CHECKS.fraction("started again, a row", x.half(1, 0), x.half(1, 1), 4, 1);
+    }
+
     private static void halfWithoutRows() {
         CHECKS.sentence("15", "many is not 0 .. as many (without ROWS)");
+        CHECKS.due("none of a new object, the set", new GuessBench().half(0, 2), 0);
+        CHECKS.fraction("none of a new object", new GuessBench().half(0, 0), new GuessBench().half(0, 1), 0, 1);
         for (int columns = 1; columns <= 3; columns++) {
             GuessBench x = Benches.of(columns);
             CHECKS.fraction("none of none", x.half(0, 0), x.half(0, 1), 0, 1);

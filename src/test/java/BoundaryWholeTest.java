@@ -25,6 +25,7 @@ public final class BoundaryWholeTest {
         barGreatest();
         barBeyond();
         barredOfOthers();
+        barredOneAlone();
         barredOfRowsThere();
         cornerWhereAWeightBecomesZero();
         CHECKS.end();
@@ -341,6 +342,24 @@ public final class BoundaryWholeTest {
                 CHECKS.due("column 1 of one", Benches.one().barred(bar, 1, what), -1);
                 CHECKS.due("column 2 of two", Benches.two().barred(bar, 2, what), -1);
                 CHECKS.due("column 3 of three", Benches.three(5, 6, 7).barred(bar, 3, what), -1);
+            }
+        }
+    }
+
+    /** Each column in turn is the last that is not 0, above 0 and below; the others are held at 0. */
+    private static void barredOneAlone() {
+        CHECKS.sentence("19, 20", "BARRED (just below the greatest CORNER, and at it)");
+        for (int told : row(7, -7)) {
+            for (int alone = 0; alone < 3; alone++) {
+                GuessBench x = Benches.three(alone == 0 ? told : 2, alone == 1 ? told : -3, alone == 2 ? told : 1);
+                long others = alone == 0 ? 10 : alone == 1 ? 5 : 13;
+                for (int c = 0; c < 3; c++) {
+                    long want = c == alone ? told / 7 : 0;
+                    CHECKS.fraction("barred 12, " + c, x.barred(12, c, 0), x.barred(12, c, 1), want, 1);
+                    CHECKS.fraction("barred 14, " + c, x.barred(14, c, 0), x.barred(14, c, 1), 0, 1);
+                }
+                CHECKS.fraction("cost 12", x.cost(12, 0), x.cost(12, 1), others + 36 + 12, 1);
+                CHECKS.fraction("cost 14", x.cost(14, 0), x.cost(14, 1), others + 49, 1);
             }
         }
     }

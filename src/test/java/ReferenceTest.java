@@ -8,7 +8,7 @@ public final class ReferenceTest {
 
     private int wrong = 0;
     private String state = "";
-    private final GuessBench bench = new GuessBench();
+    private GuessBench bench = new GuessBench();
     private final Reference reference = new Reference();
 
     public static void main(String[] args) {
@@ -73,6 +73,19 @@ public final class ReferenceTest {
         reference.add(told, x);
     }
 
+    /** The same state in a new object, since what an object answers after 512 calls is free. */
+    private void renew() {
+        bench = new GuessBench();
+        bench.start(reference.columns);
+        for (int r = 0; r < reference.tolds.size(); r++) {
+            int[] x = reference.numbers.get(r);
+            bench.row(reference.tolds.get(r), x[0], x[1], x[2]);
+            if (!reference.kept.get(r)) {
+                bench.set(r, false);
+            }
+        }
+    }
+
     /** States whose sums are at or near the greatest that the bounds allow. */
     private void greatStates() {
         for (int columns = 1; columns <= 3; columns++) {
@@ -132,11 +145,14 @@ public final class ReferenceTest {
         Frac all = reference.sumOf(kept, reference.allColumns());
         dueFrac("sum", bench.sum(0), bench.sum(1), all);
         compareWeights();
-        compareRows();
         compareFew(kept);
-        compareHalf(kept);
         compareSizes();
+        renew();
+        compareRows();
+        renew();
+        compareHalf(kept);
         compareCorners();
+        renew();
         compareBar(bar);
         for (int other : BARS) {
             compareBar(other);
