@@ -12,6 +12,7 @@ public final class BoundaryCornerTest {
         belowIt();
         onBothSides();
         staysZero();
+        standsStill();
         beyondTheBars();
         noOthers();
         rowsThere();
@@ -115,6 +116,30 @@ public final class BoundaryCornerTest {
         CHECKS.sentence("21", "and is not 0 (else it is none)");
         corners("a weight that stays 0", Benches.of(2, row(5, 1, 0), row(0, 0, 1)), 10, 1);
         corners("two that stay 0", Benches.three(0, 0, -7), 14, 1);
+    }
+
+    /** A weight that is the same at all bars of a pattern of signs never runs into 0 there. */
+    private static void standsStill() {
+        CHECKS.sentence("21", "at which a WEIGHT of BARRED is 0 (one that does not change with the BAR is not)");
+        // Products 2, 1 and 1, 1: with both weights above 0 weight 0 is the same at every bar.
+        GuessBench x = Benches.of(2, row(1, 1, 0), row(4, 1, 1));
+        CHECKS.fraction("weight 0 at 0", x.barred(0, 0, 0), x.barred(0, 0, 1), 1, 1);
+        CHECKS.fraction("weight 0 at 3", x.barred(3, 0, 0), x.barred(3, 0, 1), 1, 1);
+        corners("one that stands still from 0 on", x, 10, 1, 6, 1);
+        corners("and is below 0", Benches.of(2, row(-1, 1, 0), row(-4, 1, 1)), 10, 1, 6, 1);
+        // Weight 1 is 0 at every bar; with it below 0 weight 0 would stand still.
+        x = Benches.of(3, row(-3, 1, 0, 0), row(-3, 1, 1, 0), row(-4, 0, 0, 1));
+        CHECKS.fraction("weight 1 at 0", x.barred(0, 1, 0), x.barred(0, 1, 1), 0, 1);
+        CHECKS.fraction("weight 1 at 1", x.barred(1, 1, 0), x.barred(1, 1, 1), 0, 1);
+        corners("below 0 in a pattern that is never right", x, 12, 1, 8, 1);
+        corners("above 0 in a pattern that is never right",
+                Benches.of(3, row(3, 1, 0, 0), row(3, 1, 1, 0), row(4, 0, 0, 1)), 12, 1, 8, 1);
+        corners("above 0, beside two that change",
+                Benches.of(3, row(1, -1, -1, 1), row(-1, 0, 0, -1), row(2, -1, 0, 0), row(3, 0, -1, 1)),
+                10, 1, 4, 1);
+        corners("below 0, beside two that change",
+                Benches.of(3, row(-1, -1, -1, 1), row(1, 0, 0, -1), row(-2, -1, 0, 0), row(-3, 0, -1, 1)),
+                10, 1, 4, 1);
     }
 
     private static void beyondTheBars() {

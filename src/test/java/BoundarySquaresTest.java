@@ -540,8 +540,18 @@ public final class BoundarySquaresTest {
         CHECKS.fraction("dropped too", x.half(1, 0), x.half(1, 1), 49, 1);
         x.set(2, true);
         CHECKS.due("taken back", x.half(1, 2), 4);
+        for (int many : new int[] {-1, 3}) {
+            for (int what = 0; what <= 2; what++) {
+                CHECKS.due("half " + many + " after a change", x.half(many, what), -1);
+                CHECKS.due("half 1 was found", x.half(1, 2), 4);
+                x.row(9, 0, 0, 0);
+                x.set(x.count(1) - 1, false);
+                CHECKS.due("half " + many + " after what was found and a change", x.half(many, what), -1);
+            }
+        }
         x.start(2);
         CHECKS.due("started again", x.half(1, 2), -1);
+        CHECKS.due("started again, half -1", x.half(-1, 2), -1);
         x.row(2, 0, 0, 0);
         CHECKS.fraction("started again, a row", x.half(1, 0), x.half(1, 1), 4, 1);
     }

@@ -1,3 +1,4 @@
+import java.lang.reflect.Array;
 import java.lang.reflect.Constructor;
 import java.lang.reflect.Field;
 import java.lang.reflect.Member;
@@ -5,6 +6,8 @@ import java.lang.reflect.Method;
 import java.lang.reflect.Modifier;
 import java.nio.file.Files;
 import java.nio.file.Path;
+import java.util.IdentityHashMap;
+import java.util.Map;
 import java.util.Set;
 import java.util.TreeSet;
 import java.util.regex.Matcher;
@@ -24,11 +27,19 @@ public final class LanguageTest {
         "while \\(true\\)", "for \\(;;\\)"
     };
 
+    /** All that the class takes of the library. */
+    private static final Set<String> LIBRARY = Set.of("Math.abs", "Integer.bitCount");
+    /** What a run may make in all, and how many objects it could have if each call made a new one. */
+    private static final long ROOM_OBJECTS = 600_000;
+    private static final long ROOM_FIELDS = 7_300_000;
+    private static final long CALLS = 512;
+
     private static int wrong = 0;
 
     public static void main(String[] args) throws Exception {
         face();
         nested();
+        room();
         source(Files.readString(Path.of("src/main/java/GuessBench.java")));
         System.out.println(wrong == 0 ? "all rules are kept" : wrong + " rules are not kept");
         if (wrong != 0) {
@@ -112,8 +123,48 @@ public final class LanguageTest {
         due("at most twenty fields of " + one, own <= 20, true);
     }
 
+    /** Rule 12 and the run's one room: calls make nothing (RobustTest), so an object's own parts are all. */
+    private static void room() throws IllegalAccessException {
+        GuessBench bench = new GuessBench();
+        Map<Object, Boolean> parts = new IdentityHashMap<>();
+        long fields = countParts(bench, parts);
+        due("room for objects", parts.size() * CALLS <= ROOM_OBJECTS, true);
+        due("room for fields and elements", fields * CALLS <= ROOM_FIELDS, true);
+    }
+
+    private static long countParts(Object part, Map<Object, Boolean> parts) throws IllegalAccessException {
+        if (part == null || parts.put(part, true) != null) {
+            return 0;
+        }
+        if (part.getClass().isArray()) {
+            return Array.getLength(part);
+        }
+        long fields = 0;
+        for (Field field : part.getClass().getDeclaredFields()) {
+            if (!Modifier.isStatic(field.getModifiers())) {
+                field.setAccessible(true);
+                fields += 1 + (field.getType().isPrimitive() ? 0 : countParts(field.get(part), parts));
+            }
+        }
+        return fields;
+    }
+
+    /** Rule 4: every class that is named is the file's own, or stands in the list. */
+    private static void library(String code) {
+        Set<String> own = new TreeSet<>(Set.of("GuessBench"));
+        for (Class<?> one : GuessBench.class.getDeclaredClasses()) {
+            own.add(one.getSimpleName());
+        }
+        Matcher matcher = Pattern.compile("\\b([A-Z]\\w*[a-z]\\w*)(\\.\\w+)?").matcher(code);
+        while (matcher.find()) {
+            boolean isFine = own.contains(matcher.group(1)) || LIBRARY.contains(matcher.group());
+            due("library: " + matcher.group(), isFine, true);
+        }
+    }
+
     private static void source(String text) {
         String code = text.replaceAll("(?s)/\\*.*?\\*/", "").replaceAll("//[^\n]*", "");
+        library(code);
         for (String word : FORBIDDEN) {
             due("no " + word, Pattern.compile(word).matcher(code).find(), false);
         }
